@@ -69,7 +69,7 @@ public final class RingPuzzle {
         if (text.read() != NONE) {
             return STATE;
         }
-        history.record(grid, board, made);
+        history.keep(grid, board, made);
         grid.lay(text.columns, text.rows);
         for (int cell = 0; cell < grid.cells; cell++) {
             grid.counts[cell] = text.counts[cell];
@@ -83,7 +83,7 @@ public final class RingPuzzle {
         if (!grid.hasCell(cell) || count < NONE || count > MOST_COUNT) {
             return BAD;
         }
-        history.record(grid, board, made);
+        history.keep(grid, board, made);
         int before = grid.counts[cell];
         grid.counts[cell] = count;
         board.begin(board.drawn, board.open);
@@ -94,7 +94,7 @@ public final class RingPuzzle {
         if (!grid.hasEdge(edge) || mark < OPEN || mark > OUT) {
             return BAD;
         }
-        history.record(grid, board, made);
+        history.keep(grid, board, made);
         int before = board.markOf(edge);
         long bit = 1L << edge;
         long drawn = mark == DRAWN ? board.drawn | bit : board.drawn & ~bit;
@@ -104,7 +104,7 @@ public final class RingPuzzle {
     }
 
     public int wipe() {
-        history.record(grid, board, made);
+        history.keep(grid, board, made);
         int before = grid.edges - Long.bitCount(board.open);
         forgetMade();
         board.begin(0L, grid.allEdges());
@@ -115,7 +115,7 @@ public final class RingPuzzle {
         if (!board.fits()) {
             return STATE;
         }
-        history.record(grid, board, made);
+        history.keep(grid, board, made);
         if (!solver.findNext(board, LAST_RULE)) {
             return NONE;
         }
@@ -130,7 +130,7 @@ public final class RingPuzzle {
         if (!board.fits()) {
             return STATE;
         }
-        history.record(grid, board, made);
+        history.keep(grid, board, made);
         int times = 0;
         while (times < MOST_EDGES && solver.findNext(board, most)) {
             makeFound();
@@ -780,7 +780,7 @@ public final class RingPuzzle {
             found = 0;
             looked = 0;
             first = 0;
-            await(from.drawn, from.open);
+            push(from.drawn, from.open);
             for (int node = 0; node < MOST_NODES && waiting > 0 && found < most; node++) {
                 looked++;
                 waiting--;
@@ -808,12 +808,12 @@ public final class RingPuzzle {
             }
             long edge = board.open & -board.open;
             if (edge != 0) {
-                await(board.drawn, board.open & ~edge);
-                await(board.drawn | edge, board.open & ~edge);
+                push(board.drawn, board.open & ~edge);
+                push(board.drawn | edge, board.open & ~edge);
             }
         }
 
-        private void await(long drawn, long open) {
+        private void push(long drawn, long open) {
             if (waiting >= 0 && waiting < drawnOf.length && waiting < openOf.length) {
                 drawnOf[waiting] = drawn;
                 openOf[waiting] = open;
@@ -834,7 +834,7 @@ public final class RingPuzzle {
         /** Where the next state is put. */
         int next;
 
-        void record(Grid grid, Board board, int[] madeNow) {
+        void keep(Grid grid, Board board, int[] madeNow) {
             int at = Math.floorMod(next, MOST_STATES);
             widths[at] = grid.width;
             heights[at] = grid.height;
