@@ -74,6 +74,7 @@ public final class LanguageTest {
         absent(program, "\\[\\]\\s*\\[\\]");
         absent(program, "static \\{");
         absent(program, "[^\\x00-\\x7f]");
+        // The program needs no division, so there is no divisor to be tested.
         absent(program, "[ (]/[ =]|[%]");
         absent(program, "@");
         libraryCalls(program);

@@ -56,6 +56,25 @@ public final class SearchTest {
         }
     }
 
+    /** No answer depends on what was asked before. */
+    private static void askedAlone() {
+        check.due("nodes(1), asked first", Puzzles.of("..").nodes(1), 3);
+        check.due("solutions(20), asked first", Puzzles.of("..").solutions(20), 3);
+        check.due("solved(6), asked first", Puzzles.of("..").solved(6), 1);
+        RingPuzzle x = Puzzles.of("..");
+        check.due("solutions(20)", x.solutions(20), 3);
+        check.due("nodes(2) behind solutions(20)", x.nodes(2), 4);
+        check.due("solutions(1) behind nodes(2)", x.solutions(1), 1);
+        x.mark(0, 2);
+        check.due("nodes(20) behind mark()", x.nodes(20), 3);
+        x.mark(1, 2);
+        check.due("solved(0) behind mark()", x.solved(0), NONE);
+        check.due("solutions(20) behind solved()", x.solutions(20), 0);
+        x.undo();
+        x.undo();
+        check.due("solved(0) behind undo()", x.solved(0), 1);
+    }
+
     private static void solvedIs(RingPuzzle x, String solution) {
         for (int edge = 0; edge < solution.length(); edge++) {
             check.due("solved(" + edge + ")", x.solved(edge), solution.charAt(edge) - '0');
@@ -161,6 +180,7 @@ public final class SearchTest {
     public static void main(String[] args) {
         smallSearches();
         limits();
+        askedAlone();
         solved();
         againstAllSets();
         grade();
