@@ -77,22 +77,29 @@ public final class ChangesTest {
         RingPuzzle x = new RingPuzzle();
         check.due("undo() at first", x.undo(), STATE);
         check.due("undo() again", x.undo(), STATE);
-        String[] states = new String[12];
         for (int i = 0; i < 12; i++) {
-            states[i] = Puzzles.state(x);
             change(x, i);
             check.due("count(14)", x.count(14), Math.min(8, i + 1));
         }
         x.type('!');
         for (int i = 11; i >= 4; i--) {
             check.due("undo() to " + i, x.undo(), i - 4);
-            check.holds("state " + i + ": " + Puzzles.state(x), Puzzles.state(x).equals(states[i]));
+            String state = Puzzles.state(x);
+            check.holds("state " + i + ": " + state, state.equals(Puzzles.state(changed(i))));
             check.due("count(14)", x.count(14), i - 4);
         }
         long digest = x.digest();
         check.due("undo() of no state", x.undo(), STATE);
         check.due("digest() behind it", x.digest(), digest);
         check.due("count(15), the text is no part of a state", x.count(15), 10);
+    }
+
+    private static RingPuzzle changed(int times) {
+        RingPuzzle x = new RingPuzzle();
+        for (int i = 0; i < times; i++) {
+            change(x, i);
+        }
+        return x;
     }
 
     private static void change(RingPuzzle x, int i) {

@@ -20,6 +20,14 @@ final class Check {
         due(what, holds ? 1 : 0, 1);
     }
 
+    int asked() {
+        return asked;
+    }
+
+    int wrong() {
+        return wrong;
+    }
+
     /** Ends the program, with exit code 1 if an answer was wrong. */
     void end() {
         System.out.println(name + ": " + asked + " answers, " + wrong + " not as due");

@@ -1,6 +1,7 @@
 /** Promise 23 (digest); also that what is told changes nothing. */
 public final class DigestTest {
     private static final Check check = new Check("DigestTest");
+    private static final int STEPS = 10;
 
     /** The digest from the other answers, with the text that was typed. */
     private static long digestOf(RingPuzzle x, String text) {
@@ -8,10 +9,12 @@ public final class DigestTest {
         for (int what = 0; what <= 15; what++) {
             h = 31 * h + x.count(what);
         }
-        for (int cell = 0; cell < x.count(0) * x.count(1); cell++) {
+        int cells = x.count(0) * x.count(1);
+        for (int cell = 0; cell < cells; cell++) {
             h = 31 * h + x.countOf(cell);
         }
-        for (int edge = 0; edge < x.count(2); edge++) {
+        int edges = x.count(2);
+        for (int edge = 0; edge < edges; edge++) {
             h = 31 * h + x.edge(edge);
         }
         for (int what = 0; what <= 4; what++) {
@@ -33,6 +36,25 @@ public final class DigestTest {
         long due = digestOf(x, text);
         check.due(name + ": digest()", x.digest(), due);
         check.due(name + ": digest() again", x.digest(), due);
+    }
+
+    /** The puzzle of a text behind some changes, the last of which are undone. */
+    private static RingPuzzle stepped(String text, int steps) {
+        RingPuzzle x = Puzzles.of(text);
+        for (int step = 1; step <= steps; step++) {
+            switch (step) {
+                case 1: x.mark(1, 1); break;
+                case 2: x.mark(2, 2); break;
+                case 3: x.deduce(); break;
+                case 4: x.deduceAll(7); break;
+                case 5: x.wipe(); break;
+                case 6: x.deduceAll(7); break;
+                case 7: x.mark(0, 1); break;
+                case 8: x.setCount(0, 0); break;
+                default: x.undo(); break;
+            }
+        }
+        return x;
     }
 
     private static void askAll(RingPuzzle x) {
@@ -62,28 +84,16 @@ public final class DigestTest {
         digest("with a text", x, "\u0000\u007f");
         String[] texts = {"33", "3", "0", "..0/2.1", "231/320/100", "23.3/.1../2..2/3.23", " 3. / .3 ", "..../..../..../...."};
         for (String text : texts) {
-            x = Puzzles.of(text);
-            digest(text, x, text);
-            x.mark(1, 1);
-            x.mark(2, 2);
-            digest(text + " marked", x, text);
-            x.deduce();
-            digest(text + " and deduced", x, text);
+            for (int steps = 0; steps <= STEPS; steps++) {
+                digest(text + " behind " + steps + " steps", stepped(text, steps), text);
+            }
+            x = stepped(text, STEPS);
+            x.clearText();
+            digest(text + " without its text", x, "");
+            x = stepped(text, 3);
             long before = x.digest();
             askAll(x);
             check.due(text + ": digest() behind questions", x.digest(), before);
-            x.deduceAll(7);
-            digest(text + " and deduced to the end", x, text);
-            x.wipe();
-            x.deduceAll(7);
-            digest(text + " deduced from the beginning", x, text);
-            x.mark(0, 1);
-            x.setCount(0, 0);
-            digest(text + " that does not fit", x, text);
-            x.undo();
-            x.undo();
-            x.clearText();
-            digest(text + " without its text", x, "");
         }
         // By hand: one cell of which all is ruled out. No ring, no deduction, one node, no grade.
         x = Puzzles.of("0");

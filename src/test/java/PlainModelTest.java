@@ -10,6 +10,9 @@ public final class PlainModelTest {
         "3/3/3/3/3", "33333", ".1.2/3.2./.2.3/2.1.", "32/..", "3.1/...", "02/..", "3..1/.22./.22./1..3"
     };
 
+    /** An object is used for 512 calls; one change asks 100 at most, the end of a run 250. */
+    private static final int MOST_ASKED = 150;
+
     private final Check check;
     private long seed;
     private RingPuzzle x;
@@ -60,7 +63,7 @@ public final class PlainModelTest {
 
     /** Draws or rules out edges of a solution, so that runs come to grids that are nearly solved. */
     private void followSolution() {
-        int edges = x.count(2);
+        int edges = plain.count(2);
         int times = below(edges + 1);
         for (int i = 0; i < times; i++) {
             int edge = below(edges);
@@ -78,10 +81,10 @@ public final class PlainModelTest {
         if (plain.solutions(1) != 1) {
             return;
         }
-        for (int cell = 0; cell < x.count(0) * x.count(1); cell++) {
+        for (int cell = 0; cell < plain.count(0) * plain.count(1); cell++) {
             int around = 0;
             for (int i = 0; i < 4; i++) {
-                around += x.solved(plain.edgeAt(false, cell, i));
+                around += plain.solved(plain.edgeAt(false, cell, i));
             }
             if (below(3) > 0 && around < 4) {
                 check.due("setCount(" + cell + ", " + around + ")", x.setCount(cell, around), plain.setCount(cell, around));
@@ -119,6 +122,7 @@ public final class PlainModelTest {
         }
     }
 
+    /** Numbers, counts and edges, and of the dearer questions one kind a run, as an object has few calls. */
     private void askAll() {
         for (int what = -1; what <= 16; what++) {
             check.due("count(" + what + ")", x.count(what), plain.count(what));
@@ -128,14 +132,28 @@ public final class PlainModelTest {
         }
         for (int edge = -1; edge <= 40; edge++) {
             check.due("edge(" + edge + ")", x.edge(edge), plain.edge(edge));
-            for (int what = -1; what <= 3; what++) {
+        }
+        if (below(2) == 0) {
+            askWays();
+        } else {
+            askPlaces(below(2) == 0);
+        }
+    }
+
+    private void askWays() {
+        for (int edge = -1; edge <= 40; edge++) {
+            for (int what = 0; what <= 2; what++) {
                 check.due("way(" + edge + ", " + what + ")", x.way(edge, what), plain.way(edge, what));
             }
         }
+        check.due("way(0, 3)", x.way(0, 3), plain.way(0, 3));
+        check.due("way(0, -1)", x.way(0, -1), plain.way(0, -1));
+    }
+
+    private void askPlaces(boolean corner) {
         for (int number = -1; number <= 25; number++) {
             for (int i = -1; i <= 4; i++) {
-                check.due("edgeAt(true, " + number + ", " + i + ")", x.edgeAt(true, number, i), plain.edgeAt(true, number, i));
-                check.due("edgeAt(false, " + number + ", " + i + ")", x.edgeAt(false, number, i), plain.edgeAt(false, number, i));
+                check.due("edgeAt(" + corner + ", " + number + ", " + i + ")", x.edgeAt(corner, number, i), plain.edgeAt(corner, number, i));
             }
         }
     }
@@ -162,12 +180,13 @@ public final class PlainModelTest {
         }
     }
 
-    private void run(int calls) {
+    private void run(int changes) {
         x = new RingPuzzle();
         plain = new PlainRing();
         small = below(5) != 0;
         newPuzzle();
-        for (int i = 0; i < calls; i++) {
+        int begun = check.asked();
+        for (int i = 0; i < changes && check.asked() - begun < MOST_ASKED; i++) {
             change();
             askSome();
         }

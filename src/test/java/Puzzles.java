@@ -24,7 +24,7 @@ final class Puzzles {
                 mark = 1;
             } else if (word.equals("o")) {
                 mark = 2;
-            } else {
+            } else if (!word.isEmpty()) {
                 puzzle.mark(Integer.parseInt(word), mark);
             }
         }
@@ -33,7 +33,8 @@ final class Puzzles {
 
     static String marks(RingPuzzle puzzle) {
         StringBuilder marks = new StringBuilder();
-        for (int edge = 0; edge < puzzle.count(2); edge++) {
+        int edges = puzzle.count(2);
+        for (int edge = 0; edge < edges; edge++) {
             marks.append(".do".charAt(puzzle.edge(edge)));
         }
         return marks.toString();
@@ -41,7 +42,8 @@ final class Puzzles {
 
     static String counts(RingPuzzle puzzle) {
         StringBuilder counts = new StringBuilder();
-        for (int cell = 0; cell < puzzle.count(0) * puzzle.count(1); cell++) {
+        int cells = puzzle.count(0) * puzzle.count(1);
+        for (int cell = 0; cell < cells; cell++) {
             int count = puzzle.countOf(cell);
             counts.append(count == RingPuzzle.NONE ? "." : "" + count);
         }
