@@ -870,8 +870,11 @@ public final class RingPuzzle {
         final byte[] letters = new byte[MOST_LETTERS];
         final int[] counts = new int[MOST_CELLS];
         int length;
+        /** In the first row, how many cells a row may have; behind it, how many it has. */
         int columns;
         int rows;
+        /** How many cells of the latest row were read. */
+        int column;
 
         int append(int letter) {
             if (length < 0 || length >= MOST_LETTERS) {
@@ -886,37 +889,43 @@ public final class RingPuzzle {
         int read() {
             columns = MOST_SIDE;
             rows = 1;
-            int column = 0;
-            int cell = 0;
+            column = 0;
             for (int i = 0; i < length && i < MOST_LETTERS; i++) {
                 int letter = letters[i];
-                if (letter == ' ') {
-                    continue;
-                }
-                if (letter == '/') {
-                    if (!endsRow(column) || rows == MOST_SIDE) {
-                        return i;
-                    }
-                    columns = column;
-                    rows++;
-                    column = 0;
-                } else if (!isCell(letter) || column >= columns || cell >= MOST_CELLS) {
+                boolean stands = letter == ' ' || (letter == '/' ? beginRow() : addCell(letter));
+                if (!stands) {
                     return i;
-                } else {
-                    counts[cell] = letter == '.' ? NONE : letter - '0';
-                    cell++;
-                    column++;
                 }
             }
-            if (!endsRow(column)) {
+            if (!rowIsWhole()) {
                 return length;
             }
             columns = column;
             return NONE;
         }
 
+        private boolean beginRow() {
+            if (!rowIsWhole() || rows == MOST_SIDE) {
+                return false;
+            }
+            columns = column;
+            rows++;
+            column = 0;
+            return true;
+        }
+
+        private boolean addCell(int letter) {
+            int cell = (rows - 1) * columns + column;
+            if (!isCell(letter) || column >= columns || cell < 0 || cell >= MOST_CELLS) {
+                return false;
+            }
+            counts[cell] = letter == '.' ? NONE : letter - '0';
+            column++;
+            return true;
+        }
+
         /** The first row may have any number of cells, and settles that of the others. */
-        private boolean endsRow(int column) {
+        private boolean rowIsWhole() {
             return rows == 1 ? column > 0 : column == columns;
         }
 

@@ -17,22 +17,10 @@ final class ChangesBoundaries {
     }
 
     private static void tellAbout(Sentences s) {
-        s.without(1, "A puzzle of one ring: on a grid of cells, some of which have counts, edges are drawn such that they form one "
-                + "closed ring and each count is the number of drawn edges around its cell. The class keeps what is drawn and what "
-                + "is ruled out, makes deductions that have names and grades, one at a time, tells where things do not fit, and "
-                + "counts solutions.");
         s.test("1, 23", "An object is used for at most 512 calls after it has been made; what later calls answer is free.",
                 ChangesBoundaries::manyCalls);
-        s.without(1, "Puzzles are read from texts. Each deduction is the first one that a list of rules allows, and is told with its "
-                + "rule and its place. Changes can be undone.");
-        s.without(1, "How the state is held inside the object is free, as are the speed of each call, the text of toString and the "
-                + "behaviour of equals and hashCode. Use of one object from several threads at once is not promised to be safe. "
-                + "Nothing is promised beyond the answers and state changes described above, and nothing about an object after its "
-                + "512th call.");
-        s.without(1, "The constants:");
         s.test("2, 5", "- BAD = -2, STATE = -3, FULL = -4: Error codes.", ChangesBoundaries::errorCodes);
         s.test("12", "- NONE = -1: There is no such thing.", ChangesBoundaries::noSuchThing);
-        s.without(1, "The constructor and the methods follow, a promise each: the signature, then what it does.");
     }
 
     private static void tellHistory(Sentences s) {
@@ -42,7 +30,6 @@ final class ChangesBoundaries {
         s.test("11", "and when one more is recorded, the oldest one is dropped.", ChangesBoundaries::oldestIsDropped);
         s.test("11", "undo() removes the latest one and restores it.", ChangesBoundaries::latestIsRestored);
         s.test("2, 3, 11", "The text does not belong to a state.", ChangesBoundaries::textIsNoState);
-        s.without(11, "Restores the latest state of the history.");
         s.test("11", "Returns how many states are left in the history; STATE if there is none.", ChangesBoundaries::undoAnswers);
     }
 
@@ -59,7 +46,6 @@ final class ChangesBoundaries {
     }
 
     private static void tellChanges(Sentences s) {
-        s.without(6, "Sets the count of a cell.");
         s.test("6", "What was counted of deductions stays, here and with mark().", ChangesBoundaries::countedStays);
         s.test("6", "- cell: the cell", ChangesBoundaries::setCountCells);
         s.test("6", "- count: 0 to 3, or NONE for no count", ChangesBoundaries::setCountCounts);

@@ -52,13 +52,10 @@ final class GridBoundaries {
     }
 
     private static void tellPlaces(Sentences s) {
-        s.without(12, "Returns the count of a cell.");
         s.test("12", "- cell: the cell", GridBoundaries::countOfCell);
         s.test("12", "Returns the count; BAD; NONE if it has none.", GridBoundaries::countOfAnswers);
-        s.without(13, "Returns the mark of an edge.");
         s.test("13", "- edge: the edge", GridBoundaries::edgeNumbers);
         s.test("13", "Returns 0 open, 1 drawn, 2 ruled out; BAD.", GridBoundaries::edgeAnswers);
-        s.without(14, "Returns an edge of a cell or of a corner.");
         s.test("14", "- corner: whether a corner is meant, else a cell", GridBoundaries::cornerOrCell);
         s.test("14", "- number: the number of the cell or corner", GridBoundaries::placeNumbers);
         s.test("14", "- i: its index, from 0, among the edges around the cell, or at the corner, by ascending numbers",
@@ -68,7 +65,6 @@ final class GridBoundaries {
     }
 
     private static void tellMisfits(Sentences s) {
-        s.without(15, "Tells what does not fit.");
         s.test("15", "- what: 0 for the first cell that does not fit,", GridBoundaries::firstCell);
         s.test("15", "1 for the first corner,", GridBoundaries::firstCorner);
         s.test("15", "2 for the least number of an edge of a ring that does not fit,", GridBoundaries::leastOfRings);
@@ -88,7 +84,6 @@ final class GridBoundaries {
     }
 
     private static void tellNumbers(Sentences s) {
-        s.without(22, "Returns a number.");
         s.test("22", "- what: 0 for the width, 1 for the height,", GridBoundaries::widthAndHeight);
         s.test("22", "2 for the number of edges, 3 for that of open ones, 4 for that of drawn ones,", GridBoundaries::edgesCounted);
         s.test("22", "5 for the number of cells with counts,", GridBoundaries::cellsCounted);

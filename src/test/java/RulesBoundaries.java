@@ -42,7 +42,6 @@ final class RulesBoundaries {
     }
 
     private static void tellDeductions(Sentences s) {
-        s.without(9, "Makes the next deduction.");
         s.test("9", "Returns its rule; STATE if the grid does not fit; NONE if there is no deduction (that is a change all the same).",
                 RulesBoundaries::deduceAnswers);
         s.test("10", "Makes deductions, one after the other, until there is none.", RulesBoundaries::untilThereIsNone);

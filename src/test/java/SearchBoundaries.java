@@ -55,7 +55,6 @@ final class SearchBoundaries {
     }
 
     private static void tellDigest(Sentences s) {
-        s.without(23, "Returns a digest.");
         s.test("23", "It begins with h = 157; for each of the following numbers v, in this order, h becomes 31 * h + v, in long arithmetic "
                 + "with overflow:", SearchBoundaries::digestOverflows);
         s.test("23", "count(0) to count(15);", SearchBoundaries::digestOfNumbers);
@@ -66,7 +65,6 @@ final class SearchBoundaries {
         s.test("23", "solutions(2) and nodes(2);", SearchBoundaries::digestOfSearch);
         s.test("23", "grade();", SearchBoundaries::digestOfGrade);
         s.test("23", "the bytes of the text.", SearchBoundaries::digestOfText);
-        s.without(23, "Returns h.");
     }
 
     private static RingPuzzle marked(String text, String marks) {

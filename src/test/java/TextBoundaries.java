@@ -25,7 +25,6 @@ final class TextBoundaries {
         s.test("2", "Returns the length of the text; BAD; FULL if the text has 40 bytes.", TextBoundaries::typeAnswers);
         s.test("3", "Empties the text.", TextBoundaries::empties);
         s.test("3", "Returns the length that it had.", TextBoundaries::clearAnswers);
-        s.without(4, "Returns the fault of the text.");
         s.test("4", "Returns the index; NONE if there is no fault.", TextBoundaries::faultAnswers);
         s.test("5", "Makes the puzzle of the text the puzzle, with all edges open;", TextBoundaries::allOpen);
         s.test("5", "no deductions are counted.", TextBoundaries::noneCounted);

@@ -98,6 +98,31 @@ public final class TextTest {
         faultOf("33/33/33/3/", 10);
     }
 
+    /** All texts of some letters behind a beginning, against the plain model. */
+    private static void allTexts(String begin, int most) {
+        againstModel(begin);
+        if (most > 0) {
+            for (char letter : ".2/ 4".toCharArray()) {
+                allTexts(begin + letter, most - 1);
+            }
+        }
+    }
+
+    private static void againstModel(String text) {
+        RingPuzzle x = new RingPuzzle();
+        PlainRing plain = new PlainRing();
+        for (char letter : text.toCharArray()) {
+            x.type(letter);
+            plain.type(letter);
+        }
+        check.due("fault() of \"" + text + "\"", x.fault(), plain.fault());
+        check.due("setPuzzle() of \"" + text + "\"", x.setPuzzle(), plain.setPuzzle());
+        check.due("width of \"" + text + "\"", x.count(0), plain.count(0));
+        for (int cell = 0; cell <= 16; cell++) {
+            check.due("countOf(" + cell + ") of \"" + text + "\"", x.countOf(cell), plain.countOf(cell));
+        }
+    }
+
     private static void setPuzzle() {
         for (int height = 1; height <= 4; height++) {
             for (int width = 1; width <= 4; width++) {
@@ -148,6 +173,9 @@ public final class TextTest {
         type();
         clearText();
         fault();
+        allTexts("", 6);
+        allTexts("2/./2/", 4);
+        allTexts("..../.2../..../..2", 4);
         setPuzzle();
         setPuzzleAnew();
         check.end();
