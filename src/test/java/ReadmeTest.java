@@ -114,7 +114,7 @@ public final class ReadmeTest {
 
     private void texts() {
         for (String[] row : table("| text | `fault()` | `setPuzzle()` |")) {
-            String text = row[0].substring(1, row[0].length() - 1);
+            String text = row[0].equals("(none)") ? "" : row[0].substring(1, row[0].length() - 1);
             RingPuzzle x = new RingPuzzle();
             Puzzles.typeAll(x, text);
             check.due("fault() of \"" + text + "\"", x.fault(), told(row[1]));
